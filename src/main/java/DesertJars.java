@@ -45,7 +45,7 @@ public final class DesertJars {
     private final Land here = new Land();
     private final Land first = new Land();
     private final Land second = new Land();
-    private final Land both = new Land();
+    private final Land mixed = new Land();
     private Law ruling = new Law(tape);
     private Law spare = new Law(tape);
     private final Camp camp = new Camp();
@@ -304,17 +304,17 @@ public final class DesertJars {
             return NONE;
         }
         tape.begin(n);
-        landReader.readTwo(first, second, both);
+        landReader.readTwo(first, second, mixed);
         if (tape.fault != 0) {
             return tape.fault;
         }
         first.measure();
         second.measure();
-        both.measure();
-        if (numbers.refusal(first) != 0 || numbers.refusal(second) != 0 || numbers.refusal(both) != 0) {
+        mixed.measure();
+        if (numbers.refusal(first) != 0 || numbers.refusal(second) != 0 || numbers.refusal(mixed) != 0) {
             return NUMBERS_NOT_TOLD;
         }
-        return numbers.ofOtherLand(first) * numbers.ofOtherLand(second) - numbers.ofOtherLand(both);
+        return numbers.ofOtherLand(first) * numbers.ofOtherLand(second) - numbers.ofOtherLand(mixed);
     }
 
     public int robbers(int w) {
@@ -442,7 +442,7 @@ public final class DesertJars {
     private void readLaying() {
         Arrays.fill(trial.jars, 0);
         int laid = 0;
-        for (int i = 0; i < TEXT_BYTES && (i == 0 || !tape.atEnd()); i++) {
+        for (int i = 0; i < TEXT_BYTES && !tape.atEnd(); i++) {
             int start = tape.at;
             int w = tape.letter();
             if (w >= here.wells) {
@@ -533,7 +533,7 @@ public final class DesertJars {
         }
 
         int peek() {
-            return byteAt(at);
+            return at < end && at < bytes.length ? bytes[at] : END;
         }
 
         boolean atEnd() {
@@ -572,22 +572,20 @@ public final class DesertJars {
             return well;
         }
 
-        boolean atDigit() {
-            int sign = peek();
+        static boolean isDigit(int sign) {
             return sign >= '0' && sign <= '9';
         }
 
         int digits(int most) {
             int value = 0;
-            int taken = 0;
-            for (int i = 0; i < most && atDigit(); i++) {
+            int start = at;
+            for (int i = 0; i < most && isDigit(peek()); i++) {
                 value = value * 10 + peek() - '0';
                 at++;
-                taken++;
             }
-            if (taken == 0) {
+            if (at == start) {
                 fail(WRONG_SIGN, at);
-            } else if (atDigit()) {
+            } else if (isDigit(peek())) {
                 fail(TOO_MANY_DIGITS, at);
             }
             return value;
@@ -1022,7 +1020,7 @@ public final class DesertJars {
                     readSum(depth + 1);
                     tape.take(']');
                 }
-            } else if (tape.atDigit()) {
+            } else if (Tape.isDigit(sign)) {
                 emit(NUMBER);
                 emit(tape.digits(MOST_DIGITS));
             } else {
@@ -1584,14 +1582,13 @@ public final class DesertJars {
             for (int a = 0; a < wells; a++) {
                 for (int b = 0; b < wells; b++) {
                     boolean goesNearer = land.way(b, w) < land.way(a, w);
-                    if (b == w || land.way(a, w) < 2 || !land.areNext(a, b) || goesNearer != nearer
-                            || moves >= MOST_MOVES) {
-                        continue;
+                    // IN VAIN one NEXT to w never has two JARS, so no MOVE starts there and none ends at w.
+                    if (land.areNext(a, b) && land.way(a, w) >= 2 && goesNearer == nearer && moves < MOST_MOVES) {
+                        two[moves] = fields[a] & ~(1 << shifts[a]);
+                        full[moves] = fields[b];
+                        change[moves] = (1 << shifts[b]) - (2 << shifts[a]);
+                        moves++;
                     }
-                    two[moves] = fields[a] & ~(1 << shifts[a]);
-                    full[moves] = fields[b];
-                    change[moves] = (1 << shifts[b]) - (2 << shifts[a]);
-                    moves++;
                 }
             }
         }
@@ -1878,6 +1875,7 @@ public final class DesertJars {
         final int[] order = new int[MOST_WELLS];
         final int[] images = new int[MOST_WELLS];
         final long[] looks = new long[MOST_WELLS];
+        final int[] twins = new int[MOST_WELLS];
         Land land;
 
         int howMany(Land ofLand) {
@@ -1899,15 +1897,34 @@ public final class DesertJars {
             int taken = 0;
             int near = 1 << start;
             for (int i = 0; i < land.wells; i++) {
-                int open = (near & ~taken) != 0 ? near & ~taken : ~taken;
-                int w = Math.min(Integer.numberOfTrailingZeros(open), MOST_WELLS - 1);
+                int w = lowest((near & ~taken) != 0 ? near & ~taken : ~taken);
                 order[i] = w;
                 taken |= 1 << w;
                 near |= land.next[w];
             }
             for (int v = 0; v < land.wells; v++) {
                 looks[v] = look(v);
+                twins[v] = twinsOf(v);
             }
+        }
+
+        private static int lowest(int bits) {
+            for (int w = 0; w < MOST_WELLS - 1; w++) {
+                if ((bits >> w & 1) != 0) {
+                    return w;
+                }
+            }
+            return MOST_WELLS - 1;
+        }
+
+        /** WELLS that can change places with this one while all others stay. */
+        private int twinsOf(int v) {
+            int found = 0;
+            for (int u = 0; u < land.wells; u++) {
+                int others = ~(1 << v | 1 << u);
+                found |= ((land.next[v] ^ land.next[u]) & others) == 0 ? 1 << u : 0;
+            }
+            return found;
         }
 
         /** How many WELLS are how many steps away: unlike looks can't be laid on each other. */
@@ -1957,12 +1974,15 @@ public final class DesertJars {
                 return true;
             }
             int fitting = fitting(level, used);
+            int failed = 0;
             for (int w = 0; w < land.wells; w++) {
-                if ((fitting >> w & 1) != 0) {
+                // Where a twin did not do, this one won't: else all orders of many twins would be gone through.
+                if ((fitting >> w & 1) != 0 && (failed & twins[w]) == 0) {
                     images[level] = w;
                     if (canGoOn(level + 1, used | 1 << w)) {
                         return true;
                     }
+                    failed |= 1 << w;
                 }
             }
             return false;
