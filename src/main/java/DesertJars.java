@@ -1290,16 +1290,21 @@ public final class DesertJars {
         }
     }
 
-    /** Seeks the fewest MOVES, all layings of one more MOVE after those of one less. */
+    /**
+     * Seeks the fewest MOVES: all layings of one more MOVE after those of one less, but only those from which it can
+     * still be done within a limit; then anew with the next limit that lets in more.
+     */
     private static final class Search {
         static final int MOST_MOVES = 56 + 168;
-        static final int WHOLE_JAR = 1 << SEARCH_WELLS - 1;
+        static final int HALVES = SEARCH_WELLS - 1;
+        static final int NEVER = 1000;
 
         final Ranks ranks = new Ranks();
         final int[] takenA = new int[MOST_MOVES];
         final int[] takenB = new int[MOST_MOVES];
         final int[] given = new int[MOST_MOVES];
-        final int[] weights = new int[SEARCH_WELLS];
+        final int[] nearest = new int[SEARCH_WELLS];
+        final int[] ways = new int[SEARCH_WELLS];
         final int[] row = new int[SEARCH_WELLS];
         int moves;
         int[] seen = new int[0];
@@ -1307,47 +1312,48 @@ public final class DesertJars {
         byte[] starts = new byte[0];
         int found;
         int wells;
+        int reachable;
         int aim;
         int due;
+        int limit;
+        int nextLimit;
         int firstMove;
 
         int fewestMoves(Land land, int[] jars, int w, int k, boolean both) {
-            int sum = begin(land, jars, w, k);
-            if (jars[w] >= k) {
+            wells = Math.min(land.wells, SEARCH_WELLS);
+            aim = w;
+            due = k;
+            System.arraycopy(jars, 0, row, 0, wells);
+            if (row[aim] >= due) {
                 return 0;
             }
+            sortByWay(land);
             listMoves(land, both);
-            makeSpace(sum);
-            layings[0] = packed();
-            found = 1;
-            int levelStart = 0;
-            for (int level = 1; level < sum; level++) {
-                int levelEnd = found;
-                for (int i = levelStart; i < levelEnd; i++) {
-                    int last = goFrom(i, level == 1);
-                    if (last >= 0) {
-                        int move = level == 1 ? last : starts[i] & 255;
-                        firstMove = 256 * takenA[move] + 16 * takenB[move] + given[move];
-                        return level;
-                    }
+            int start = packed();
+            nextLimit = leastMoves();
+            for (int i = 0; i < SEARCH_JARS && nextLimit < NEVER; i++) {
+                limit = nextLimit;
+                nextLimit = NEVER;
+                int needed = goWithinLimit(start);
+                if (needed > 0) {
+                    return needed;
                 }
-                levelStart = levelEnd;
             }
             return NO_WAY;
         }
 
-        private int begin(Land land, int[] jars, int w, int k) {
-            wells = Math.min(land.wells, SEARCH_WELLS);
-            aim = w;
-            due = k;
-            int sum = 0;
-            for (int v = 0; v < wells; v++) {
-                int way = land.way(v, w);
-                weights[v] = way < 0 ? 0 : WHOLE_JAR >> way;
-                row[v] = jars[v];
-                sum += jars[v];
+        /** WELLS from which there is a way to the aim, the nearest first, without the aim itself. */
+        private void sortByWay(Land land) {
+            reachable = 0;
+            for (int way = 1; way < wells; way++) {
+                for (int v = 0; v < wells; v++) {
+                    if (land.way(v, aim) == way) {
+                        nearest[reachable] = v;
+                        ways[reachable] = way;
+                        reachable++;
+                    }
+                }
             }
-            return sum;
         }
 
         /** In the order in which of like ones the first is told. */
@@ -1374,9 +1380,45 @@ public final class DesertJars {
             }
         }
 
-        private void makeSpace(int sum) {
-            int bits = ranks.rowsBelow(wells, sum + 1);
-            int words = bits / 32 + 1;
+        /**
+         * No fewer MOVES will do from this row: a JAR that is d steps away can be no more than 1 / 2 to the d of one
+         * that is due, and each MOVE takes one JAR away from those that are used up. NEVER if all are not enough.
+         */
+        private int leastMoves() {
+            int lacking = due - row[aim];
+            int needed = lacking << HALVES;
+            int used = 0;
+            for (int i = 0; i < reachable && needed > 0; i++) {
+                int part = HALVES - ways[i];
+                int enough = needed + (1 << part) - 1 >> part;
+                int taken = Math.min(row[nearest[i]], enough);
+                used += taken;
+                needed -= taken << part;
+            }
+            return needed > 0 ? NEVER : used - lacking;
+        }
+
+        private int packed() {
+            int bits = 0;
+            for (int v = 0; v < wells; v++) {
+                bits |= row[v] << 4 * v;
+            }
+            return bits;
+        }
+
+        private void unpack(int bits) {
+            for (int v = 0; v < wells; v++) {
+                row[v] = bits >>> 4 * v & 15;
+            }
+        }
+
+        private void makeSpace(int start) {
+            unpack(start);
+            int sum = 0;
+            for (int v = 0; v < wells; v++) {
+                sum += row[v];
+            }
+            int words = ranks.rowsBelow(wells, sum + 1) / 32 + 1;
             if (seen.length < words) {
                 seen = new int[words];
             } else {
@@ -1390,43 +1432,52 @@ public final class DesertJars {
             }
         }
 
-        private int packed() {
-            int bits = 0;
-            for (int v = 0; v < wells; v++) {
-                bits |= row[v] << 4 * v;
+        /** How many MOVES it takes, 0 if more than the limit; among the layings of a level first MOVES stay in order. */
+        private int goWithinLimit(int start) {
+            makeSpace(start);
+            layings[0] = start;
+            found = 1;
+            int levelStart = 0;
+            for (int level = 1; level <= limit; level++) {
+                int levelEnd = found;
+                for (int i = levelStart; i < levelEnd; i++) {
+                    int last = goFrom(i, level);
+                    if (last >= 0) {
+                        int move = level == 1 ? last : starts[i] & 255;
+                        firstMove = 256 * takenA[move] + 16 * takenB[move] + given[move];
+                        return level;
+                    }
+                }
+                levelStart = levelEnd;
             }
-            return bits;
+            return 0;
         }
 
         /** Adds the layings that are one MOVE from laying i; the MOVE by which all is done, NONE if none does it. */
-        private int goFrom(int i, boolean isFirst) {
-            int weight = 0;
-            for (int v = 0; v < wells; v++) {
-                row[v] = layings[i] >>> 4 * v & 15;
-                weight += row[v] * weights[v];
-            }
+        private int goFrom(int i, int level) {
+            unpack(layings[i]);
             for (int move = 0; move < moves; move++) {
                 int a = takenA[move];
                 int b = takenB[move];
                 int c = given[move];
-                // No MOVE makes JARS weigh more, so what weighs less than is due never brings it.
-                if (row[a] < 1 || row[b] < 1 || a == b && row[a] < 2
-                        || weight - weights[a] - weights[b] + weights[c] < due * WHOLE_JAR) {
+                if (row[a] < 1 || row[b] < 1 || a == b && row[a] < 2) {
                     continue;
                 }
                 row[a]--;
                 row[b]--;
                 row[c]++;
-                boolean done = row[aim] >= due;
-                if (!done) {
-                    addIfNew(isFirst ? (byte) move : starts[i]);
+                int left = leastMoves();
+                if (left == 0) {
+                    return move;
+                }
+                if (level + left <= limit) {
+                    addIfNew(level == 1 ? (byte) move : starts[i]);
+                } else {
+                    nextLimit = Math.min(nextLimit, level + left);
                 }
                 row[a]++;
                 row[b]++;
                 row[c]--;
-                if (done) {
-                    return move;
-                }
             }
             return NONE;
         }
