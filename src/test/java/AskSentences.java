@@ -1,3 +1,4 @@
+import java.util.function.BiConsumer;
 import java.util.function.IntUnaryOperator;
 
 /** "Terms" about what is asked of a desert: MOVES, NUMBERS, PAPERS, PRODUCTS, ROBBERS, LEDGERS, SYMMETRIES, what is KEPT. */
@@ -75,6 +76,8 @@ final class AskSentences {
         reach("K4", "b3c3", 0, 3, false, -2);
         reach("S4", "b2c2", 3, 1, false, 3);
         due("nothing is changed", unchangedByReach(), true);
+        rounds(12, 8, 6, 10, (pair, told) -> pair.askReach(false, told));
+        rounds(8, 4, 8, 12, (pair, told) -> pair.askReach(false, told));
 
         says(12, "the first MOVE (of like ones the one by two JARS of one WELL, by the lowest from, then the lowest to; then those from both"
             + " sides, by the lower from, the other, then to).");
@@ -93,6 +96,7 @@ final class AskSentences {
         first("K5;a/c;b/d;a/e;c/e", "a1b1c1", 4, true, 0, 2, 1);
         // Fewer MOVES come first: c's two are there at once.
         first("L4", "a4c2", 3, false, 2, 2, 3);
+        rounds(12, 8, 6, 10, (pair, told) -> pair.askReach(true, told));
 
         says(12, "Of more than 8 WELLS, more than 12 JARS in all nothing is told (-4).");
         reach("L8", "a12", 1, 1, false, 1);
@@ -106,6 +110,17 @@ final class AskSentences {
         reach("K12", "a40", 0, 1, false, -4);
         due("of the first MOVE neither", Desk.at("L9", "a2").reach(1, 1, false, 1), -4);
         due("13 JARS, the first MOVE", Desk.at("L2", "a13").reach(0, 1, false, 1), -4);
+    }
+
+    /** So many deserts, each with a few lands one after the other, against the slow model. */
+    private static void rounds(int deserts, int lands, int mostWells, int jars, BiConsumer<Pair, String> asked) {
+        for (int desert = 0; desert < deserts; desert++) {
+            Pair pair = new Pair(1000L * jars + desert);
+            for (int i = 0; i < lands; i++) {
+                String land = pair.newLand(mostWells);
+                asked.accept(pair, land + " with " + pair.newLaying(jars > 0 ? 1 + (desert + i) % jars : 0));
+            }
+        }
     }
 
     private static boolean unchangedByReach() {
@@ -170,6 +185,7 @@ final class AskSentences {
         number("S4", 1, 5, 2, "0 0 3 1");
         number("S4", 3, 5, 2, "0 3 1 0");
         number("S4", 0, 4, 1, "0 1 1 1");
+        rounds(12, 6, 6, 0, Pair::askNumbers);
 
         says(14, "THE LAND's NUMBER is the greatest of its WELLS.");
         Object[] lands = {"L1", 1, 0, "L2", 2, 0, "L5", 16, 0, "S4", 5, 1, "S5", 6, 1, "K12", 12, 0, "R7", 11, 0, "L4;d/c;d-b", 5, 0,
@@ -184,6 +200,7 @@ final class AskSentences {
             }
             due("the greatest of " + lands[i], x.landNumber(0), most);
         }
+        rounds(6, 20, 6, 0, Pair::askLandNumber);
 
         says(13, "(Is there no way from some WELL to it: -2; come the steps from all WELLS to it to more than 16: -4.)");
         due("no way", Desk.at("L3;a/b").number(0, 100), -2);
@@ -218,6 +235,7 @@ final class AskSentences {
         fewest("K7" + ";a/b;a/c;a/d;a/e;a/f;a/g", 3, 6, "1 2 0 0 0 0 0");
         // Two at c bring one to b and d, so one at a or at b is enough beside them; and the mirror of these.
         fewest("L4", 3, 4, "1 0 2 0");
+        rounds(12, 20, 6, 0, Pair::askFewest);
 
         says(15, "of more than 7 WELLS nothing is told (-4).");
         due("7 WELLS", Desk.at("L7").fewest(100), 5);
@@ -233,6 +251,7 @@ final class AskSentences {
         for (int i = 0; i < lands.length; i += 2) {
             due("of " + lands[i], Desk.at((String) lands[i]).atOnce(), (Integer) lands[i + 1]);
         }
+        rounds(6, 40, 12, 0, Pair::askAtOnce);
     }
 
     private static int paper(String land, int w, int... bytes) {
@@ -322,6 +341,7 @@ final class AskSentences {
             due("robbers for " + cases[i + 2] + " in " + cases[i] + " from " + cases[i + 1],
                 Desk.at((String) cases[i], (String) cases[i + 1]).robbers((Integer) cases[i + 2]), (Integer) cases[i + 3]);
         }
+        rounds(12, 12, 5, 8, Pair::askRobbers);
     }
 
     private static void ledgers(String land, String laying, Object... textsAndAnswers) {
@@ -362,8 +382,10 @@ final class AskSentences {
         ledgers("K12", "a40b40c40d40e40f40g40h40i40j40k40l40", "?;?;?", 132 * 132 * 132, 34, 43);
         DesertJars queen = Desk.at("L3", "b4");
         queen.queen(2);
-        due("at THE QUEEN's WELL, the most", Desk.ledger(queen, "?;?", 2), 2);
-        due("at THE QUEEN's WELL, the least", Desk.ledger(queen, "b>c;b>a", 1), 1);
+        due("at THE QUEEN's WELL, the most", Desk.ledger(queen, "b>c;?", 2), 2);
+        due("at THE QUEEN's WELL, the least", Desk.ledger(queen, "b>c;?", 1), 1);
+        due("none at THE QUEEN's WELL", Desk.ledger(queen, "b>a;b>a", 2), 0);
+        rounds(20, 30, 6, 20, Pair::askLedger);
 
         says(21, "FAULTS: 1; 4 an 11th LINE, at its first byte (if that can stand there);");
         String text = "a>b;?;b>c";
@@ -411,6 +433,7 @@ final class AskSentences {
             due("of " + places[i + 1] + " in " + places[i], Desk.at((String) places[i]).symmetries((Integer) places[i + 1]),
                 (Integer) places[i + 2]);
         }
+        rounds(12, 30, 7, 0, Pair::askSymmetries);
 
         says(24, "KEPT: JARS, ROOM, THE QUEEN, THE DAY, X;");
         DesertJars x = Sentences.lived();
@@ -462,6 +485,17 @@ final class AskSentences {
         due("none where she was, at 0", x.count(4), 0);
         x.undo();
         Sentences.dueText("once more", Sentences.jars(x), "1 2 3 4");
+        DesertJars early = new DesertJars();
+        early.keep();
+        Desk.land(early, "L2");
+        Desk.laying(early, "a3");
+        early.room(1, 7);
+        early.queen(1);
+        early.days(4);
+        early.undo();
+        Sentences.dueText("KEPT ahead of any WELLS", Sentences.jars(early), "0 0");
+        due("ROOM as at first", early.wellIs(0, 1) == 40 && early.wellIs(1, 1) == 40, true);
+        due("THE QUEEN, THE DAY, X as at first", early.count(4) == 0 && early.count(0) == 0 && early.count(7) == 1, true);
 
         says(26, "CHECK: JARS of WELLS: right, or the first that is not so.");
         x = Desk.at("L3", "a7c40");

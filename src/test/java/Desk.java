@@ -29,14 +29,20 @@ final class Desk {
         }
     }
 
-    /** Feeds bytes behind the tape, filled up with zeros to whole feeds. */
+    /** Bytes as ints for whole feeds, filled up with zeros. */
+    static int[][] fives(int... bytes) {
+        int[][] all = new int[(bytes.length + 19) / 20][5];
+        for (int i = 0; i < 20 * all.length; i++) {
+            int[] five = all[i / 20];
+            int sign = i < bytes.length ? bytes[i] : 0;
+            five[i % 20 / 4] = five[i % 20 / 4] << 8 | sign & 255;
+        }
+        return all;
+    }
+
+    /** Feeds bytes behind the tape. */
     static void feed(DesertJars x, int... bytes) {
-        for (int start = 0; start < bytes.length; start += 20) {
-            int[] five = new int[5];
-            for (int i = 0; i < 20; i++) {
-                int sign = start + i < bytes.length ? bytes[start + i] : 0;
-                five[i / 4] = five[i / 4] << 8 | sign & 255;
-            }
+        for (int[] five : fives(bytes)) {
             x.feed(five[0], five[1], five[2], five[3], five[4]);
         }
     }

@@ -1,3 +1,4 @@
+import java.util.function.BiConsumer;
 import java.util.function.IntUnaryOperator;
 
 /** The sentences of the promises, 1 to 27. What they have from "Terms" is tested there. */
@@ -135,6 +136,11 @@ final class PromiseSentences {
         due("nothing of the one before holds", x.tried(1, 10), 7);
         due("1 byte", Desk.law(x, "e"), -1001);
         due("240 bytes", Desk.law(x, "e1(1=1" + times("&1=1", 57, "") + "&1=01)"), 1);
+        due("240 bytes hold", x.tried(1, 0), 1);
+        for (int cost = 2; cost <= 9; cost++) {
+            due("one after the other", Desk.law(x, "c" + cost + "(1=1);e1(1=1" + times("&1=1", 56, "") + ")"), 2);
+            due("the last one holds", x.tried(1, 10), 9 - cost);
+        }
         due("20 of 20 bytes", Desk.law(x, "e1(1=1&1=1&1=1&1=01)"), 1);
 
         says(5, "a FAULT: -1000 times its number, less its place (the one before stays);");
@@ -397,6 +403,24 @@ final class PromiseSentences {
         due("without WELLS", new DesertJars().reach(0, 1, false, 0), NONE);
     }
 
+    /** What is asked of one land after the other must be told as of one that is the first. */
+    private static void oneAfterTheOther(String what, BiConsumer<DesertJars, StringBuilder> asked) {
+        DesertJars x = new DesertJars();
+        for (String land : new String[] {"K5", "L4", "R6", "S5", "L2*L3", "L6;b-e", "L2", "L5;a-c", "R7", "L1", "K4;a/b"}) {
+            StringBuilder one = new StringBuilder();
+            StringBuilder other = new StringBuilder();
+            Desk.land(x, land);
+            asked.accept(x, one);
+            asked.accept(x, one);
+            DesertJars fresh = Desk.at(land);
+            asked.accept(fresh, other);
+            asked.accept(fresh, other);
+            Sentences.dueText(what + " of " + land, one.toString(), other.toString());
+            // A run has at most 512 calls.
+            x = land.equals("S5") || land.equals("L5;a-c") ? new DesertJars() : x;
+        }
+    }
+
     private static void number() {
         says(13, "THE NUMBER of a WELL, what 100 it, 101 how many layings, else JARS at WELL what in that one;");
         DesertJars x = Desk.at("S5");
@@ -409,6 +433,16 @@ final class PromiseSentences {
         due("JARS that lie do not matter", Desk.at("L3", "a40b40c40").number(0, 100), 4);
         Desk.land(x, "L3");
         due("of a new land", x.number(1, 100) == 3 && x.number(1, 101) == 1 && x.number(1, 2) == 1, true);
+
+        oneAfterTheOther("numbers", (y, all) -> {
+            int wells = y.count(1);
+            for (int w = 0; w < wells; w++) {
+                all.append(y.number(w, 100)).append('/').append(y.number(w, 101)).append(':');
+                for (int v = 0; v < wells; v++) {
+                    all.append(y.number(w, v)).append(' ');
+                }
+            }
+        });
 
         says(13, "-2 ahead of -4 as above;");
         for (int what : new int[] {100, 101, 0, 11}) {
@@ -443,6 +477,8 @@ final class PromiseSentences {
             due("WELL of " + lands[i] + " again", x.landNumber(1), (Integer) lands[i + 2]);
         }
 
+        oneAfterTheOther("NUMBERS of lands", (y, all) -> all.append(y.landNumber(0)).append('/').append(y.landNumber(1)));
+
         says(14, "-2, -4: as of the first WELL that tells so;");
         for (int what = 0; what < 2; what++) {
             due("no way", Desk.at("L2;a/b").landNumber(what), -2);
@@ -453,6 +489,9 @@ final class PromiseSentences {
             due("S9: 15 at most", Desk.at("S9").landNumber(what), what == 0 ? 10 : 1);
             due("S10: 17", Desk.at("S10").landNumber(what), -4);
         }
+        DesertJars head = Desk.at("L8;d/e;e/f;f/g;g/h;c-e;c-f;c-g;c-h");
+        due("too far from the first one alone", head.landNumber(0), -4);
+        due("all but the first are told", head.number(0, 100) == -4 && head.number(1, 100) > 0 && head.number(7, 100) > 0, true);
         DesertJars tail = Desk.at("L8;a/b;b/c;c/d;d/e;a-e;b-e;c-e;d-e");
         due("all but the last are told", tail.number(0, 100) > 0 && tail.number(6, 100) > 0 && tail.number(7, 100) == -4, true);
 
@@ -479,6 +518,13 @@ final class PromiseSentences {
         due("of a new land", 100 * x.fewest(100) + 10 * x.fewest(101) + x.fewest(0), 272);
         due("the last of seven", x.fewest(6), 0);
         due("JARS that lie do not matter", Desk.at("L3", "a40b40c40").fewest(100), 2);
+
+        oneAfterTheOther("FEWEST", (y, all) -> {
+            all.append(y.fewest(100)).append('/').append(y.fewest(101)).append(':');
+            for (int v = 0; v < y.count(1); v++) {
+                all.append(y.fewest(v)).append(' ');
+            }
+        });
 
         says(15, "-3: no WELLS;");
         due("it", new DesertJars().fewest(100), -3);
@@ -745,6 +791,12 @@ final class PromiseSentences {
         due("K12, l", Desk.at("K12").symmetries(11), 4095);
         due("L4, b", Desk.at("L4").symmetries(1), 0b0110);
         due("JARS, ROOM, THE QUEEN do not matter", Desk.at("L4", "a9").symmetries(100), 2);
+        oneAfterTheOther("SYMMETRIES", (y, all) -> {
+            all.append(y.symmetries(100)).append(':');
+            for (int w = 0; w < y.count(1); w++) {
+                all.append(y.symmetries(w)).append(' ');
+            }
+        });
 
         says(22, "NONE: no such ones.");
         for (int what : new int[] {6, 7, 12, 99, 101, -1, LOW, HIGH}) {
