@@ -406,7 +406,8 @@ final class AskSentences {
         says(21, "5 a fourth ?, at it (behind 4);");
         due("three", Desk.ledger(Desk.at("L3", "a40"), "?;?;?", 0) > 0, true);
         ledgerFaults("?;?;?;?", -5006, "?;a>b;?;?;a>b;?", -5014, "?;?;?;?;m", -5006, "?;?;?;" + times("a>b", 7, ";") + ";?", -4034,
-            "?;?;?;" + times("a>b", 6, ";") + ";?", -5030, "?;?;??", -1005);
+            "?;?;?;" + times("a>b", 6, ";") + ";?", -5030, "?;?;??", -1005, "?;?;?;a?", -1007,
+            "?;?;?;a>?", -1008);
 
         says(21, "7 no such WELL, at its letter (behind 4);");
         ledgerFaults("d>a", -7000, "a>d", -7002, "l>a", -7000, "d", -7000, "d~", -7000, "m>a", -1000, "a>m", -1002, "a>b;d>a", -7004, ten + ";d>a",

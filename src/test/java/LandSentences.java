@@ -228,7 +228,8 @@ final class LandSentences {
 
         says(6, "5 a third ( that is open in another one, at it;");
         lands("(((L2)))", -5002, "(((", -5002, "((L2))", 2, "((L2)*(L2))", 4, "(L2)*(L2)*(L2)", 8, "((L2)*((L2)))", -5007, "L1*(((", -5005,
-            "((L1)*(L1))*((L2)*(L2))", 4, "(L2*(L2*(L2)))", -5008, "((L1*(L2", -5005, "((L1)*(L1)*(", -1012);
+            "((L1)*(L1))*((L2)*(L2))", 4, "(L2*(L2*(L2)))", -5008, "((L1*(L2", -5005, "((L1)*(L1)*(", -1012, "((L1(", -1004, "((L(", -1003,
+            "((L1)(", -1005);
 
         says(6, "6 more than 12 WELLS by a product, at the first byte of the PART by which they are (asked when it ends);");
         lands("L3*L4", 12, "L7*L2", -6003, "L2*L7", -6003, "L12*L2", -6004, "L12*L12", -6004, "L3*L5", -6003, "L4*L4x", -6003, "L4*L4*",
