@@ -78,7 +78,9 @@ final class AskSentences {
         due("nothing is changed", unchangedByReach(), true);
         rounds(12, 8, 6, 10, (pair, told) -> pair.askReach(false, told));
         rounds(8, 4, 8, 12, (pair, told) -> pair.askReach(false, told));
+    }
 
+    private static void firstMoves() {
         says(12, "the first MOVE (of like ones the one by two JARS of one WELL, by the lowest from, then the lowest to; then those from both"
             + " sides, by the lower from, the other, then to).");
         first("L3", "c4", 0, false, 2, 2, 1);
@@ -186,7 +188,9 @@ final class AskSentences {
         number("S4", 3, 5, 2, "0 3 1 0");
         number("S4", 0, 4, 1, "0 1 1 1");
         rounds(12, 6, 6, 0, Pair::askNumbers);
+    }
 
+    private static void landNumbers() {
         says(14, "THE LAND's NUMBER is the greatest of its WELLS.");
         Object[] lands = {"L1", 1, 0, "L2", 2, 0, "L5", 16, 0, "S4", 5, 1, "S5", 6, 1, "K12", 12, 0, "R7", 11, 0, "L4;d/c;d-b", 5, 0,
             "L3;a/c", 4, 0};
@@ -386,7 +390,9 @@ final class AskSentences {
         due("at THE QUEEN's WELL, the least", Desk.ledger(queen, "b>c;?", 1), 1);
         due("none at THE QUEEN's WELL", Desk.ledger(queen, "b>a;b>a", 2), 0);
         rounds(20, 30, 6, 20, Pair::askLedger);
+    }
 
+    private static void faultsOfLedgers() {
         says(21, "FAULTS: 1; 4 an 11th LINE, at its first byte (if that can stand there);");
         String text = "a>b;?;b>c";
         for (int i = 1; i <= text.length(); i++) {
@@ -420,7 +426,7 @@ final class AskSentences {
         due("stages that a LINE gave", Desk.ledger(Desk.at("L3;a-c", "a40"), "a>c", 0), 1);
     }
 
-    private static void symmetriesAndKept() {
+    private static void symmetries() {
         says(22, "SYMMETRIES: in how many ways THE LAND's WELLS can be laid on themselves so that NEXT stays NEXT (the plain one, too); WELLS on which"
             + " a WELL can be laid so (bits).");
         Object[] lands = {"L1", 1, "L2", 2, "L12", 2, "R3", 6, "R12", 24, "S3", 2, "S12", 39916800, "K12", 479001600, "L2;a/b", 2,
@@ -435,7 +441,9 @@ final class AskSentences {
                 (Integer) places[i + 2]);
         }
         rounds(12, 30, 7, 0, Pair::askSymmetries);
+    }
 
+    private static void kept() {
         says(24, "KEPT: JARS, ROOM, THE QUEEN, THE DAY, X;");
         DesertJars x = Sentences.lived();
         String before = Sentences.seen(x);
@@ -454,9 +462,11 @@ final class AskSentences {
         x.undo();
         due("THE LAW is not KEPT", x.count(5), 1);
         due("nor the tape", x.count(6), 20);
+    }
 
+    private static void undone() {
         says(25, "UNDONE: as they were KEPT last (WELLS THE LAND does not have now have none; has it none where THE QUEEN was, she is at 0).");
-        x = Desk.at("L4", "a1b2c3d4");
+        DesertJars x = Desk.at("L4", "a1b2c3d4");
         x.room(3, 9);
         x.queen(3);
         x.keep();
@@ -497,9 +507,11 @@ final class AskSentences {
         Sentences.dueText("KEPT ahead of any WELLS", Sentences.jars(early), "0 0");
         due("ROOM as at first", early.wellIs(0, 1) == 40 && early.wellIs(1, 1) == 40, true);
         due("THE QUEEN, THE DAY, X as at first", early.count(4) == 0 && early.count(0) == 0 && early.count(7) == 1, true);
+    }
 
+    private static void checked() {
         says(26, "CHECK: JARS of WELLS: right, or the first that is not so.");
-        x = Desk.at("L3", "a7c40");
+        DesertJars x = Desk.at("L3", "a7c40");
         Desk.feed(x, 7, 0, 40);
         due("right", x.check(3), NONE);
         Desk.feed(x, 7, 0, 39);
@@ -552,12 +564,18 @@ final class AskSentences {
 
     static void all() {
         moves();
+        firstMoves();
         numbers();
+        landNumbers();
         fewestAndAtOnce();
         papers();
         productAndRobbers();
         ledger();
-        symmetriesAndKept();
+        faultsOfLedgers();
+        symmetries();
+        kept();
+        undone();
+        checked();
         memory();
     }
 }

@@ -63,7 +63,9 @@ final class DaySentences {
         Sentences.dueText("another one is gone", Sentences.jars(x), "0 2 1");
         x.room(1, 0);
         due("ROOM where it starts does not matter", x.tried(1, 0), 1);
+    }
 
+    private static void liking() {
         says(8, "the one they like most is gone (e above 0; of like ones the lowest from, then the lowest to):");
         after(1, "K4", "a2b2c2d2", "e1(1=1)", "0 3 2 2");
         after(1, "K4", "b2c2", "e1(1=1)", "1 0 2 0");
@@ -202,6 +204,7 @@ final class DaySentences {
 
     static void all() {
         stages();
+        liking();
         robbers();
         lastDay();
         tried();

@@ -131,7 +131,9 @@ final class LawSentences {
             Desk.law(x, "r99999(1=1)");
             due("a DRAW of " + draw + " by r99999", x.tried(1, 1), 1);
         }
+    }
 
+    private static void ruling() {
         says(8, "x nobody goes on THE DAY (any will do; without an x in THE LAW they may):");
         after("L2", "a4", "e1(1=1)", "2 1");
         after("L2", "a4", "e1(1=1);x(1=2)", "2 1");
@@ -237,8 +239,6 @@ final class LawSentences {
         after("L3", "a3b5c4", "r10(n=4)", "3 5 3");
         after("L3", "a3b5c4", "r10(m=0)", "2 4 3");
         after("L3", "a3b5c4", "r10(m>0)", "3 5 4");
-
-        letters();
     }
 
     private static void letters() {
@@ -261,10 +261,12 @@ final class LawSentences {
         after("L4;b/c", "c2", "e1(s=99)", "0 0 0 1");
         after("L4;b/c", "b2", "e1(s=0)", "1 0 0 0");
         after("L4;b/c", "b2c2", "r10(s=99)", "0 2 1 0");
+    }
 
+    private static void otherLetters() {
         says(8, "q THE QUEEN's WELL, j JARS of all, d THE DAY modulo 100, w the DRAW of THE DAY (f, g, n, m, s in x 0).");
         for (int queen = 0; queen < 3; queen++) {
-            x = Desk.at("L3", "a2");
+            DesertJars x = Desk.at("L3", "a2");
             x.queen(queen);
             Desk.law(x, "e1(q=" + queen + ")");
             due("q in e", x.tried(1, 0), 1);
@@ -281,7 +283,7 @@ final class LawSentences {
         after("K12", "a40b40c40d40e40f40g40h40i40j40k40l40", "r10(j=480)", "39 40 40 40 40 40 40 40 40 40 40 40");
         days();
         for (int seed = 0; seed < 60000; seed += 2003) {
-            x = Desk.at("L3", "a4");
+            DesertJars x = Desk.at("L3", "a4");
             x.seed(seed);
             int draw = Sentences.drawn(seed, 1) % 10;
             Desk.law(x, "e1(w=" + draw + ")");
@@ -291,7 +293,7 @@ final class LawSentences {
             Desk.law(x, "r10(w=" + draw + ")");
             due("w in r is that of THE DAY, not another", x.tried(1, 1), 1);
         }
-        x = Desk.at("L3;b/c", "a4b5c6");
+        DesertJars x = Desk.at("L3;b/c", "a4b5c6");
         x.queen(2);
         for (String letter : new String[] {"f", "g", "n", "m", "s"}) {
             Desk.law(x, "e1(1=1);x(" + letter + "=0)");
@@ -400,8 +402,11 @@ final class LawSentences {
     static void all() {
         texts();
         kinds();
+        ruling();
         conditions();
         reckoning();
+        letters();
+        otherLetters();
         machine();
         faults();
     }

@@ -6,6 +6,7 @@ final class PromiseSentences {
     private static final int NONE = Sentences.NONE;
     private static final int LOW = Sentences.LOW;
     private static final int HIGH = Sentences.HIGH;
+    private static final String SIXTY_BYTES = Sentences.times("L1", 17, "*") + "*K3,L01*L3";
     private static final int[] NO_WELLS = {6, 7, 11, 12, -1, LOW, HIGH};
 
     private PromiseSentences() {
@@ -607,8 +608,11 @@ final class PromiseSentences {
         due("it stays", eleven.count(6), 20);
         eleven.feed(0, 0, 0, 0, 0);
         due("40 are enough", eleven.paper(0), 0);
+    }
 
+    private static void joinedPapers() {
         says(18, "PAPERS JOINED, so many (1 to 4), one behind the other on the tape (empty then), for a WELL: no NUMBER is higher than this;");
+        DesertJars x = Desk.at("L4", "a3");
         int[] one = {0, 0, 0, 4, 1, 2, 2, 1};
         for (int papers = 1; papers <= 4; papers++) {
             int[] all = new int[8 * papers];
@@ -669,9 +673,8 @@ final class PromiseSentences {
         due("8 bytes", x.product(8), 3);
         Desk.feed(x, Desk.bytes("K3,L3*L1"));
         due("1 byte", x.product(1), -1001);
-        String sixty = times("L1", 17, "*") + "*K3,L01*L3";
-        due("bytes", sixty.length(), 60);
-        due("60 bytes", product(sixty), 3);
+        due("bytes", SIXTY_BYTES.length(), 60);
+        due("60 bytes", product(SIXTY_BYTES), 3);
 
         says(19, "FAULTS as of THE LAND; 1 where a , must stand or the end;");
         Object[] faults = {"L2", -1002, "L2*L1", -1005, "L2;L2", -1002, "L2;a-b,L2", -1002, "L2.L2", -1002, ",L2", -1000, "L2,", -1003, "L2,,L2", -1003,
@@ -689,7 +692,9 @@ final class PromiseSentences {
         for (int i = 0; i < both.length; i += 2) {
             due("product " + both[i], product((String) both[i]), (Integer) both[i + 1]);
         }
+    }
 
+    private static void productsTold() {
         says(19, "by how much;");
         Object[] told = {"L1,L1", 0, "L2,L2", 0, "L2,L3", 0, "L3,L2", 0, "K3,L3", 3, "K3,K3", 0, "K6,L2", 0, "K12,L1", 0, "L1,L6", 0, "R5,L1", 0,
             "S4,L2", 0, "R4,L2", 0, "L4,L2", 0};
@@ -709,7 +714,8 @@ final class PromiseSentences {
         for (int n : new int[] {0, -1, 21, 61, LOW, HIGH}) {
             Sentences.refused("product(" + n + ")", y -> y.product(n));
         }
-        due("61 bytes", Desk.product(x, sixty + "x"), NONE);
+        DesertJars x = new DesertJars();
+        due("61 bytes", Desk.product(x, SIXTY_BYTES + "x"), NONE);
         due("the tape stays", x.count(6), 80);
         due("not so many: none", new DesertJars().product(1), NONE);
 
@@ -952,7 +958,9 @@ final class PromiseSentences {
         fewest();
         atOnce();
         papers();
+        joinedPapers();
         product();
+        productsTold();
         robbers();
         ledger();
         symmetries();
