@@ -96,4 +96,24 @@ final class Desk {
         }
         return x;
     }
+
+    private static void feed(Plain slow, String text) {
+        for (int[] five : fives(bytes(text))) {
+            slow.feed(five);
+        }
+    }
+
+    /** The slow model of a desert; no laying is the empty text. */
+    static Plain slow(String land, String laying) {
+        Plain slow = new Plain();
+        feed(slow, land);
+        if (slow.land(land.length()) < 0) {
+            throw new IllegalStateException("no such land: " + land);
+        }
+        if (!laying.isEmpty()) {
+            feed(slow, laying);
+            slow.laying(laying.length());
+        }
+        return slow;
+    }
 }

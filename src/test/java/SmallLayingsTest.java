@@ -31,11 +31,7 @@ public final class SmallLayingsTest {
             laying.append((char) ('a' + w)).append(row[w]);
         }
         DesertJars x = Desk.at(land, laying.toString());
-        Plain slow = new Plain();
-        feed(slow, land);
-        slow.land(land.length());
-        feed(slow, laying.toString());
-        slow.laying(laying.length());
+        Plain slow = Desk.slow(land, laying.toString());
         laid++;
         for (int w = 0; w < wells; w++) {
             String told = "(" + w + ") of " + laying + " in " + land;
@@ -52,28 +48,11 @@ public final class SmallLayingsTest {
         }
     }
 
-    private static void feed(Plain slow, String text) {
-        for (int[] five : Desk.fives(Desk.bytes(text))) {
-            slow.feed(five);
-        }
-    }
-
     private void layAll(String land, int mostJars) {
         wells = Desk.at(land).count(1);
         for (int jars = 0; jars <= mostJars; jars++) {
             lay(land, new int[wells], 0, jars);
         }
-    }
-
-    /** Layings in which a way is lost if two that the search meets are taken for one. */
-    private static void hardOnes() {
-        Desk.due("R4*L2", Desk.at("R4*L2;d-e;f-c;d/b", "b1c2d3").reach(7, 1, false, 0), 3);
-        Desk.due("K4*L2", Desk.at("K4*L2;g-b", "b3c2d1e3f3").reach(7, 3, false, 1), 279);
-        Desk.due("K7", Desk.at("K7;f/b;c/d", "c3g1").reach(3, 1, false, 0), 2);
-        Desk.due("L2*L4", Desk.at("L2*L4;b/e;h/a", "b2d2f1g1h2").reach(1, 3, false, 0), 3);
-        Desk.due("R7", Desk.at("R7", "b1c2d1e1g1").reach(5, 1, false, 0), 3);
-        Desk.due("R6", Desk.at("R6;b-c;c/b", "b2c4").reach(5, 1, true, 0), 5);
-        Desk.due("R6, the first MOVE", Desk.at("R6", "b4c2").reach(4, 1, true, 1), 272);
     }
 
     public static void main(String[] args) {
@@ -84,7 +63,6 @@ public final class SmallLayingsTest {
         for (String land : LARGE_LANDS) {
             test.layAll(land, 4);
         }
-        hardOnes();
         Desk.close("SmallLayingsTest");
     }
 }
